@@ -47,9 +47,9 @@ public final class SmokeRoom {
     private final World passing = new World();
     private final int[] refusals = new int[4];
     private int latestRefusal = 0;
-    private final Scene scene = new Scene();
-    private final Reckoner reckoner = new Reckoner(scene);
-    private final Scales scales = new Scales(scene, reckoner);
+    private final Scales scales = new Scales();
+    private final Reckoner reckoner = scales.reckoner;
+    private final Scene scene = reckoner.scene;
 
     public SmokeRoom() {
         for (int k = 0; k < IMAGES; k++) {
@@ -1155,6 +1155,8 @@ public final class SmokeRoom {
         private static final int ASKED = 10;
         private static final int ALONE = 11;
         private static final int FACTS = 12;
+        private static final int NONE_SEES = 8;
+        private static final int NONE_HEARS = 10;
         private static final int STACK = 64;
         private static final long BEYOND = 1000000000L;
         private static final long BROKEN = 2000000000L;
@@ -1202,11 +1204,14 @@ public final class SmokeRoom {
                     Arrays.fill(size, what == 5 ? BIGGEST : 0);
                     break;
                 case 7:
-                case 8:
+                case NONE_SEES:
                     Arrays.fill(plan.sees, what == 7 ? EVERYBODY : 0);
                     break;
-                default:
+                case 9:
+                case NONE_HEARS:
                     Arrays.fill(plan.hears, what == 9 ? EVERYBODY : 0);
+                    break;
+                default:
                     break;
             }
         }
@@ -1502,7 +1507,7 @@ public final class SmokeRoom {
             0, 1, 3, 4, 9, 10, 12, 13, 27, 28, 30, 31, 36, 37, 39, 40,
             81, 82, 84, 85, 90, 91, 93, 94, 108, 109, 111, 112, 117, 118, 120, 121};
 
-        private final Scene scene;
+        private final Scene scene = new Scene();
         private int who = NONE;
         private int glance = 0;
         private int persons = 0;
@@ -1517,8 +1522,7 @@ public final class SmokeRoom {
         private final Big told = new Big(LIMBS);
         private final Big other = new Big(LIMBS);
 
-        private Reckoner(Scene scene) {
-            this.scene = scene;
+        private Reckoner() {
             for (int s = 0; s < STATES; s++) {
                 now[s] = new Big(LIMBS);
                 then[s] = new Big(LIMBS);
@@ -1650,8 +1654,8 @@ public final class SmokeRoom {
 
         /** ALONE of a PERSON, LINE of all (NONE): who sees and hears none needs no ways of the others. */
         private void reckonAlone(int person, int glances) {
-            scene.alter(8);
-            scene.alter(10);
+            scene.alter(Scene.NONE_SEES);
+            scene.alter(Scene.NONE_HEARS);
             start(NONE);
             for (int g = 0; g < glances && g < GLANCES; g++) {
                 for (int p = 0; p < persons && p < PERSONS; p++) {
@@ -1686,8 +1690,7 @@ public final class SmokeRoom {
         // Twelve TRIALS of 121 digits, a WEIGHT, four LAWS and a million: fewer than 1,480 digits.
         private static final int LIMBS = 170;
 
-        private final Scene scene;
-        private final Reckoner reckoner;
+        private final Reckoner reckoner = new Reckoner();
         private int laws = 0;
         private final Big[] loaded = new Big[LAWS];
         private final Big[] counts = new Big[LAWS];
@@ -1697,9 +1700,7 @@ public final class SmokeRoom {
         private final Big all = new Big(LIMBS);
         private final Big part = new Big(LIMBS);
 
-        private Scales(Scene scene, Reckoner reckoner) {
-            this.scene = scene;
-            this.reckoner = reckoner;
+        private Scales() {
             for (int n = 0; n < LAWS; n++) {
                 loaded[n] = new Big(LIMBS);
                 counts[n] = new Big(LIMBS);
@@ -1713,7 +1714,7 @@ public final class SmokeRoom {
             for (int n = 0; n < laws; n++) {
                 loaded[n].setSmall(room.weight[n]);
                 for (int t = 0; t < room.trials.many && t < TRIALS; t++) {
-                    scene.take(room, room.trials.first[t], n);
+                    reckoner.scene.take(room, room.trials.first[t], n);
                     reckoner.reckonAny(room.lasts);
                     multiply(loaded[n], room.trials.second[t] == 1 ? reckoner.told : reckoner.stayed);
                 }
@@ -1723,7 +1724,7 @@ public final class SmokeRoom {
 
         private void loadUnprinted(Room room, int plan) {
             for (int n = 0; n < laws && n < LAWS; n++) {
-                scene.take(room, plan, n);
+                reckoner.scene.take(room, plan, n);
                 reckoner.reckonAny(room.lasts);
                 went[n].setBig(reckoner.told);
                 stayed[n].setBig(reckoner.stayed);
