@@ -224,9 +224,6 @@ public final class SmokeRoom {
         if (!isThere(person) || !within(glance, 0, GLANCES - 1)) {
             return NONE;
         }
-        if (!within(stirs, 0, EVERYBODY) || !within(gone, 0, EVERYBODY)) {
-            return NONE;
-        }
         lookAround();
         return scene.chanceOf(person, glance, stirs & ~gone, gone & ~stirs);
     }

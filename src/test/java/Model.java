@@ -638,7 +638,7 @@ final class Model {
     }
 
     int chance(int person, int glance, int stirs, int gone) {
-        if (!there(person) || !in(glance, 0, 11) || !in(stirs, 0, 31) || !in(gone, 0, 31)) return NONE;
+        if (!there(person) || !in(glance, 0, 11)) return NONE;
         int both = stirs & gone;
         return here().chance(person, glance, stirs & ~both, gone & ~both);
     }

@@ -162,6 +162,26 @@ public final class ModelTest {
         while (calls < CALLS) step();
     }
 
+    /** Five who each do as the others did, everyone's exact chance in every nine digits. */
+    private void runCrowded() throws Exception {
+        call("people", 5);
+        int glances = 2 + random.nextInt(3);
+        call("lasts", glances);
+        for (int p = 0; p < 5; p++) {
+            call("person", p, 0, random.nextInt(8));
+            call("sees", p, 0, random.nextInt(32));
+            call("sees", p, 1, random.nextInt(32));
+            for (int other = 0; other < p; other++) call("friends", p, other, random.nextInt(2));
+        }
+        tape("go 5 + kind * 3 + stirs * 7 + gone * 11 + heard * 4 + friends * 6; hold still * 2");
+        call("law");
+        call("force", 0);
+        for (int p = -1; p < 5; p++) {
+            for (int k = 0; k <= 10 * glances / 9; k++) call("digits", p, glances, k);
+            call("crowd", p, glances);
+        }
+    }
+
     public static void main(String[] args) throws Exception {
         for (Method m : SmokeRoom.class.getDeclaredMethods()) {
             if (java.lang.reflect.Modifier.isPublic(m.getModifiers())) OF_ROOM.put(m.getName(), m);
@@ -174,7 +194,8 @@ public final class ModelTest {
         for (long seed = first; seed < first + runs; seed++) {
             ModelTest test = new ModelTest(seed);
             try {
-                test.run();
+                if (seed % 15 == 0) test.runCrowded();
+                else test.run();
             } catch (Throwable wrong) {
                 for (String line : test.told) System.out.println(line);
                 System.out.println("run " + seed + ": " + wrong);

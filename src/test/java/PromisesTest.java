@@ -194,6 +194,10 @@ public final class PromisesTest {
         is(13, "told", x.size(0, 3), 1);
         is(13, "not told", x.size(1, 3), 3);
         is(13, "refused", x.count(9), 2);
+        x.feed(0x80000005, 0x00010005, 0x00000105, 0, 99);
+        is(13, "five", x.row(), 5);
+        for (int g = 0; g < 4; g++) is(13, "smelt", x.size(g, 3), 0);
+        is(13, "99", x.size(4, 3), 99);
     }
 
     private static void laws() {
@@ -352,6 +356,18 @@ public final class PromisesTest {
         chance("go 20;hold 5 if 1=2 and 1/0=1 or 1=1", 15);
         chance("go 20;hold 5 if 1=1 or 1=1 and 1/0=1", 15);
         chance("go 20;hold 5 if not 1=2", 15);
+        chance("go 20;hold 5 if not 1=1", 20);
+        chance("go 20;hold 5 if not 7+[3*4-[2+1]]=16", 20);
+        chance("go 20;hold 5 if not 7+[3*4-[2+1]]=15", 15);
+        chance("go 20;hold 5 if not(not 1=1)", 15);
+        chance("go 20;hold 5 if not(not 1=2)", 20);
+        chance("go 20;hold 5 if not 1=1 and 1=1", 20);
+        chance("go 20;hold 5 if not 1=1 or 1=1", 15);
+        chance("go 20;hold 5 if 2<2", 20);
+        chance("go 20;hold 5 if 2>2", 20);
+        chance("go 20;hold 5 if 1<2", 15);
+        chance("go 20;hold 5 if 2<1", 20);
+        chance("go 20;hold 5 if 1>2", 20);
         chance("go 20;hold 5 if not not 1=2", 20);
         chance("go 20;hold 5 if not 1=2 and 1=2", 20);
         chance("go 20;hold 5 if 2>1 and 1<2 and 2=2", 15);
@@ -380,8 +396,8 @@ public final class PromisesTest {
         is(18, "glance -1", x.chance(0, -1, 0, 0), NONE);
         is(18, "person 2", x.chance(2, 0, 0, 0), NONE);
         is(18, "person -1", x.chance(-1, 0, 0, 0), NONE);
-        is(18, "stirs 32", x.chance(0, 0, 32, 0), NONE);
-        is(18, "gone -1", x.chance(0, 0, 0, -1), NONE);
+        is(18, "bits of nobody", x.chance(0, 0, 32, 64), 10);
+        is(18, "all bits", x.chance(0, 0, 0, -1), 30);
         is(18, "that is no refusal", x.count(6), 0);
     }
 
@@ -940,6 +956,32 @@ public final class PromisesTest {
         is(17, "its reasons", x.reasons(1), 0);
     }
 
+    /** What was noted first comes back as it was, not only how many there were. */
+    private static void rowsOverRows() {
+        SmokeRoom x = new SmokeRoom();
+        x.image(0);
+        x.street(1, 11, 1);
+        x.window(9, 1, 1);
+        x.image(1);
+        x.back(0);
+        x.street(2, 22, 0);
+        x.window(1, 0, 0);
+        x.back(1);
+        is(46, "the street's people", x.streets(0, 1, 2), 11);
+        is(46, "the street's help", x.streets(0, 1, 1), 1);
+        is(46, "the window", x.tale(1, 9, 1, 0), 4);
+        SmokeRoom y = Tape.room(1, 1, "go 20");
+        Tape.law(y, "go 60");
+        y.image(0);
+        y.trial(0, 1);
+        y.image(1);
+        y.back(0);
+        y.trial(0, 0);
+        is(46, "the other trial", y.likely(0), 666666);
+        y.back(1);
+        is(46, "the trial", y.likely(0), 250000);
+    }
+
     private static void countsAndStatus() {
         SmokeRoom x = new SmokeRoom();
         is(47, "12", x.count(12), NONE);
@@ -1007,6 +1049,7 @@ public final class PromisesTest {
         windows();
         images();
         lawsOverLaws();
+        rowsOverRows();
         countsAndStatus();
         System.out.println(looked - wrong + " answers are as due, " + wrong + " are not");
         if (wrong != 0) System.exit(1);
