@@ -224,6 +224,9 @@ public final class SmokeRoom {
         if (!isThere(person) || !within(glance, 0, GLANCES - 1)) {
             return NONE;
         }
+        if (!within(stirs, 0, EVERYBODY) || !within(gone, 0, EVERYBODY)) {
+            return NONE;
+        }
         lookAround();
         return scene.chanceOf(person, glance, stirs & ~gone, gone & ~stirs);
     }
@@ -277,14 +280,14 @@ public final class SmokeRoom {
     }
 
     public int moved(int plan, int what) {
-        if (!isPlan(plan) || !canMove(what)) {
+        if (!isPlan(plan) || !within(what, 0, MOVES - 1)) {
             return NOTHING;
         }
         return movedBy(plan, what);
     }
 
     public int span(int what, int most) {
-        if (!canMove(what) || !within(most, 0, 1)) {
+        if (!within(what, 0, MOVES - 1) || !within(most, 0, 1)) {
             return NOTHING;
         }
         int best = NOTHING;
@@ -609,10 +612,6 @@ public final class SmokeRoom {
 
     private boolean isReason(int reason) {
         return reason >= 0 && isLaw(now.force) && reason < now.laws[now.force].holds();
-    }
-
-    private boolean canMove(int what) {
-        return isLaw(now.force) && within(what, 0, MOVES - 1);
     }
 
     private boolean canReckon(int person, int glances) {

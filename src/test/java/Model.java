@@ -638,7 +638,7 @@ final class Model {
     }
 
     int chance(int person, int glance, int stirs, int gone) {
-        if (!there(person) || !in(glance, 0, 11)) return NONE;
+        if (!there(person) || !in(glance, 0, 11) || !in(stirs, 0, 31) || !in(gone, 0, 31)) return NONE;
         int both = stirs & gone;
         return here().chance(person, glance, stirs & ~both, gone & ~both);
     }
@@ -701,7 +701,7 @@ final class Model {
     }
 
     int moved(int plan, int what) {
-        if (!in(plan, 0, 5) || !in(what, 0, 10) || k.force == NONE) return NOTHING;
+        if (!in(plan, 0, 5) || !in(what, 0, 10)) return NOTHING;
         View v = view(plan, k.force);
         int was = any(v);
         for (int p = 0; p < 5; p++) {
@@ -719,7 +719,7 @@ final class Model {
     }
 
     int span(int what, int most) {
-        if (!in(what, 0, 10) || !in(most, 0, 1) || k.force == NONE) return NOTHING;
+        if (!in(what, 0, 10) || !in(most, 0, 1)) return NOTHING;
         List<Integer> all = new ArrayList<>();
         for (int p = 0; p < 6; p++) {
             if (k.plans[p].many > 0) all.add(moved(p, what));

@@ -396,8 +396,15 @@ public final class PromisesTest {
         is(18, "glance -1", x.chance(0, -1, 0, 0), NONE);
         is(18, "person 2", x.chance(2, 0, 0, 0), NONE);
         is(18, "person -1", x.chance(-1, 0, 0, 0), NONE);
-        is(18, "bits of nobody", x.chance(0, 0, 32, 64), 10);
-        is(18, "all bits", x.chance(0, 0, 0, -1), 30);
+        is(18, "all bits gone", x.chance(0, 0, 0, 31), 30);
+        is(18, "all bits stir", x.chance(0, 0, 31, 0), 20);
+        is(18, "all bits both", x.chance(0, 0, 31, 31), 10);
+        is(18, "stirs 32", x.chance(0, 0, 32, 0), NONE);
+        is(18, "stirs -1", x.chance(0, 0, -1, 0), NONE);
+        is(18, "gone 32", x.chance(0, 0, 0, 32), NONE);
+        is(18, "gone -1", x.chance(0, 0, 0, -1), NONE);
+        is(18, "gone as low as can be", x.chance(0, 0, 0, Integer.MIN_VALUE), NONE);
+        is(18, "both can't be", x.chance(0, 0, 64, 64), NONE);
         is(18, "that is no refusal", x.count(6), 0);
     }
 
@@ -484,8 +491,31 @@ public final class PromisesTest {
         x.force(NONE);
         is(22, "without a law", x.held(0, 0), NOTHING);
         is(23, "without a law", x.parts(0, 0, 0), NONE);
-        is(26, "without a law", x.moved(0, 4), NOTHING);
-        is(27, "without a law", x.span(4, 0), NOTHING);
+    }
+
+    private static void movesWithNoneInForce() {
+        SmokeRoom x = new SmokeRoom();
+        for (int what = 0; what <= 10; what++) {
+            is(26, "nobody there, " + what, x.moved(0, what), 0);
+            is(27, "no plan with persons, " + what, x.span(what, what & 1), NOTHING);
+        }
+        x.people(1);
+        for (int what = 0; what <= 10; what++) {
+            is(26, "nobody goes, " + what, x.moved(0, what), 0);
+            is(27, "nobody goes, least by " + what, x.span(what, 0), 0);
+            is(27, "nobody goes, greatest by " + what, x.span(what, 1), 0);
+        }
+        is(26, "11", x.moved(0, 11), NOTHING);
+        is(26, "plan 6", x.moved(6, 0), NOTHING);
+        is(27, "11", x.span(11, 0), NOTHING);
+        is(27, "most -1", x.span(0, -1), NOTHING);
+        x.use(1);
+        x.people(2);
+        x.paid(0, 2, 3);
+        is(26, "who is paid to go goes, unless none is paid", x.moved(1, 4), -1000000);
+        is(26, "nothing else moves that", x.moved(1, 8), 0);
+        is(27, "least", x.span(4, 0), -1000000);
+        is(27, "greatest", x.span(4, 1), 0);
     }
 
     private static void partings() {
@@ -1040,6 +1070,7 @@ public final class PromisesTest {
         reasonsHold();
         partings();
         moves();
+        movesWithNoneInForce();
         soonerWordsFew();
         worlds();
         trials();
