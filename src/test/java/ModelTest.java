@@ -1,37 +1,18 @@
-import java.lang.reflect.Method;
-import java.util.ArrayList;
-import java.util.HashMap;
 import java.util.List;
-import java.util.Map;
 import java.util.Random;
 
 /** Runs of calls by chance: SmokeRoom answers as the Model does, whatever it is asked. */
 public final class ModelTest {
-    private static final int CALLS = 512;
-
-    /** Of each argument the least and the greatest that can be. */
-    private static final String[] FACE = {
-        "use 0 5", "people 0 5", "person 0 4 0 2 0 9", "paid 0 4 0 2 0 11", "sees 0 4 0 1 0 31", "ask 0 4 -1 11",
-        "friends 0 4 0 4 0 1", "lasts 1 12", "size 0 11 0 99", "end 0 400", "row", "law", "fault", "force -1 3",
-        "reasons 0 3", "chance 0 4 0 11 0 31 0 31", "odds -1 4 0 12", "digits -1 4 0 12 0 14", "alone -1 4 0 12",
-        "held 0 5 0 5", "parts 0 3 0 3 0 1", "gentle 0 3 0 3 0 891 0 1", "fright 0 5", "moved 0 5 0 10", "span 0 10 0 1",
-        "crowd -1 4 0 12", "sooner -1 4 0 1000000", "words 0 1000000", "few", "run 0 1000000", "went 0 4",
-        "worlds 1 100 0 1000000", "trial 0 5 0 1", "weigh 0 3 0 100", "likely 0 3", "printed 0 3 0 5 0 4 0 1",
-        "next 0 3 0 3 0 1", "street 0 7 1 99 0 1", "streets 0 2 0 1 0 2", "differs", "window 0 9 0 1 0 1",
-        "tale 0 40 0 9 0 40 0 40", "image 0 1", "back 0 1", "count 0 11", "status"};
+    /** A step makes 30 calls at most, and nothing is promised behind the 512th. */
+    private static final int CALLS = 512 - 30;
 
     /** Those that are asked of a PERSON or of all, within GLANCES. */
     private static final List<String> PERSONAL = List.of("odds", "digits", "alone", "crowd", "sooner");
 
-    private static final Map<String, Method> OF_ROOM = new HashMap<>();
-    private static final Map<String, Method> OF_MODEL = new HashMap<>();
-
     private final Random random;
     private final Texts texts;
-    private SmokeRoom room = new SmokeRoom();
-    private Model model = new Model();
-    private final List<String> told = new ArrayList<>();
-    private int calls = 0;
+    private final Pair pair = new Pair();
+    private final Model model = pair.model;
 
     private ModelTest(long seed) {
         random = new Random(seed);
@@ -39,13 +20,7 @@ public final class ModelTest {
     }
 
     private void call(String name, int... args) throws Exception {
-        Object[] boxed = new Object[args.length];
-        for (int i = 0; i < args.length; i++) boxed[i] = args[i];
-        int due = (Integer) OF_MODEL.get(name).invoke(model, boxed);
-        int got = (Integer) OF_ROOM.get(name).invoke(room, boxed);
-        calls++;
-        told.add(name + java.util.Arrays.toString(args) + " = " + got);
-        if (due != got) throw new AssertionError("due is " + due);
+        pair.call(name, args);
     }
 
     private int argument(int least, int most) {
@@ -57,22 +32,9 @@ public final class ModelTest {
         return least + random.nextInt(most - least + 1);
     }
 
-    private void tape(String text) throws Exception {
-        call("end", 0);
-        for (int from = 0; from < text.length(); from += 20) {
-            int[] five = new int[5];
-            for (int i = 0; i < 20; i++) {
-                int sign = from + i < text.length() ? text.charAt(from + i) : ' ';
-                five[i / 4] = five[i / 4] << 8 | sign;
-            }
-            call("feed", five);
-        }
-        call("end", text.length());
-    }
-
     private void makeLaw() throws Exception {
         int kind = random.nextInt(8);
-        tape(kind == 0 ? texts.wrong() : kind <= 2 ? texts.good() : texts.lively());
+        pair.tape(kind == 0 ? texts.wrong() : kind <= 2 ? texts.good() : texts.lively());
         call("law");
         call("fault");
     }
@@ -104,7 +66,7 @@ public final class ModelTest {
             call("feed", random.nextInt(), random.nextInt(), random.nextInt(), random.nextInt(), random.nextInt());
             return;
         }
-        String[] parts = FACE[random.nextInt(FACE.length)].split(" ");
+        String[] parts = Pair.FACE[random.nextInt(Pair.FACE.length)].split(" ");
         int[] args = new int[(parts.length - 1) / 2];
         for (int i = 0; i < args.length; i++) {
             args[i] = argument(Integer.parseInt(parts[1 + 2 * i]), Integer.parseInt(parts[2 + 2 * i]));
@@ -159,7 +121,7 @@ public final class ModelTest {
         call("lasts", random.nextInt(6) == 0 ? 12 : 1 + random.nextInt(4));
         for (int i = 0; i < 3; i++) makeLaw();
         call("force", 0);
-        while (calls < CALLS) step();
+        while (pair.told.size() < CALLS) step();
     }
 
     /** Five who each do as the others did, everyone's exact chance in every nine digits. */
@@ -173,7 +135,7 @@ public final class ModelTest {
             call("sees", p, 1, random.nextInt(32));
             for (int other = 0; other < p; other++) call("friends", p, other, random.nextInt(2));
         }
-        tape("go 5 + kind * 3 + stirs * 7 + gone * 11 + heard * 4 + friends * 6; hold still * 2");
+        pair.tape("go 5 + kind * 3 + stirs * 7 + gone * 11 + heard * 4 + friends * 6; hold still * 2");
         call("law");
         call("force", 0);
         for (int p = -1; p < 5; p++) {
@@ -183,12 +145,6 @@ public final class ModelTest {
     }
 
     public static void main(String[] args) throws Exception {
-        for (Method m : SmokeRoom.class.getDeclaredMethods()) {
-            if (java.lang.reflect.Modifier.isPublic(m.getModifiers())) OF_ROOM.put(m.getName(), m);
-        }
-        for (Method m : Model.class.getDeclaredMethods()) {
-            if (OF_ROOM.containsKey(m.getName())) OF_MODEL.put(m.getName(), m);
-        }
         int runs = args.length > 0 ? Integer.parseInt(args[0]) : 150;
         long first = args.length > 1 ? Long.parseLong(args[1]) : 1;
         for (long seed = first; seed < first + runs; seed++) {
@@ -197,9 +153,7 @@ public final class ModelTest {
                 if (seed % 15 == 0) test.runCrowded();
                 else test.run();
             } catch (Throwable wrong) {
-                for (String line : test.told) System.out.println(line);
-                System.out.println("run " + seed + ": " + wrong);
-                wrong.printStackTrace(System.out);
+                test.pair.tell("run " + seed, wrong);
                 System.exit(1);
             }
         }
