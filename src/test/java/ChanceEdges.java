@@ -259,6 +259,17 @@ final class ChanceEdges {
             d.is("in 0", x.crowd(NONE, 0), 1);
             d.is("each in 0", x.crowd(4, 0), 1);
         }
+        SmokeRoom none = Tape.room(2, 3, "go 50 * alone");
+        d.is("nobody beside many, any", none.crowd(NONE, 3), 0);
+        d.is("nobody beside many, each", none.crowd(1, 3), 0);
+        SmokeRoom all = Tape.room(2, 3, "go 50 * [1 - alone]");
+        d.is("many beside nobody, any", all.crowd(NONE, 3), 2);
+        d.is("many beside nobody, each", all.crowd(1, 3), 2);
+        SmokeRoom sure = Tape.room(5, 12, "go 99; go 100 if alone = 1 and glance = 11");
+        d.is("all but sure beside sure, any", sure.crowd(NONE, 12), 0);
+        d.is("all but sure beside sure, each", sure.crowd(0, 12), 0);
+        d.is("nobody beside nobody", Tape.room(2, 3, "go 0").crowd(NONE, 3), 1);
+        d.is("sure beside sure", Tape.room(2, 3, "go 100").crowd(NONE, 3), 1);
         d.says(28, "NONE.");
         SmokeRoom x = Tape.room(2, 3, "go 50");
         d.is("any in 4", x.crowd(NONE, 4), NONE);
@@ -377,6 +388,8 @@ final class ChanceEdges {
         d.is(".5, then none", y.few(), 1);
         SmokeRoom z = Tape.room(5, 1, "go 75 if still = 0; go 50 if still = 1");
         d.is(".75 both", z.few(), 1);
+        d.is("sure, then all but sure", Tape.room(5, 12, "go 99; go 50 if still = 0; go 100 if still = 0 and glance = 11").few(), 1);
+        d.is("all but sure, then sure", Tape.room(5, 12, "go 99; go 50 if still = 3; go 100 if still = 3 and glance = 11").few(), 4);
         SmokeRoom v = Tape.room(2, 1, "go 50; go 29 + kind if still = 1");
         v.person(1, 0, 1);
         d.is("1 - .5, 1 - .71 * .7", v.few(), 2);
