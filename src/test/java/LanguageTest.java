@@ -5,6 +5,8 @@ import com.sun.source.util.TreePath;
 import com.sun.source.util.TreePathScanner;
 import com.sun.source.util.Trees;
 import java.io.File;
+import java.nio.file.Files;
+import java.nio.file.Path;
 import java.util.*;
 import javax.lang.model.element.Element;
 import javax.lang.model.element.ElementKind;
@@ -16,6 +18,7 @@ import javax.tools.ToolProvider;
 /** The rules of LANGUAGE.md that a machine can look at, over the class's own syntax tree. */
 public final class LanguageTest {
     private static final String SOURCE = "src/main/java/SmokeRoom.java";
+    private static final Path DOCUMENT = Path.of("..", "shared", "DOC.md");
     private static final Set<Tree.Kind> FORBIDDEN = EnumSet.of(Tree.Kind.THROW, Tree.Kind.TRY, Tree.Kind.CATCH,
         Tree.Kind.SYNCHRONIZED, Tree.Kind.ASSERT, Tree.Kind.LAMBDA_EXPRESSION, Tree.Kind.MEMBER_REFERENCE);
     private static final Set<String> LIBRARY = Set.of("java.lang.Math.max", "java.lang.Math.min", "java.lang.Math.abs",
@@ -28,6 +31,7 @@ public final class LanguageTest {
     private static final Map<String, Set<String>> calls = new TreeMap<>();
     private static final Set<String> publicNames = new TreeSet<>();
     private static final Set<String> privateNames = new TreeSet<>();
+    private static final Set<String> publicMethods = new TreeSet<>();
 
     private static void check(boolean holds, String what) {
         if (!holds) wrong.add(what);
@@ -96,6 +100,10 @@ public final class LanguageTest {
             if (!tree.getName().contentEquals("<init>")) {
                 (are.contains(Modifier.PUBLIC) ? publicNames : privateNames).add(tree.getName().toString());
                 check(are.contains(Modifier.PUBLIC) || are.contains(Modifier.PRIVATE), at(tree) + "rule 1: " + tree.getName());
+            }
+            if (are.contains(Modifier.PUBLIC) && tree.getReturnType() != null) {
+                String taken = tree.getParameters().toString().replace(",", ", ").replace("  ", " ");
+                publicMethods.add(tree.getReturnType() + " " + tree.getName() + "(" + taken + ")");
             }
             check(tree.getParameters().size() <= 7, at(tree) + "rule 11: parameters of " + tree.getName());
             if (!made) {
@@ -183,14 +191,34 @@ public final class LanguageTest {
         return all;
     }
 
-    private static void checkFace() {
+    /** The methods as the document writes them, "int use(int plan)", with their parameters' names. */
+    private static Set<String> faceOfDocument() throws Exception {
+        Set<String> lines = new TreeSet<>();
+        if (!Files.exists(DOCUMENT)) return lines;
+        String all = Files.readString(DOCUMENT);
+        int from = all.indexOf("public final class SmokeRoom {");
+        for (String line : all.substring(from, all.indexOf("```", from)).split("\n")) {
+            String plain = line.trim();
+            if (plain.startsWith("public int ")) lines.add(plain.substring(7, plain.length() - 1));
+        }
+        check(lines.size() == 47, "the document's face has " + lines.size() + " methods");
+        return lines;
+    }
+
+    private static void checkFace() throws Exception {
         check(publicNames.equals(new TreeSet<>(Arrays.asList(FACE.split(" ")))), "rule 1: the face is " + publicNames);
         for (String name : privateNames) check(!publicNames.contains(name), "rule 1: a private " + name);
+        Set<String> due = faceOfDocument();
+        check(due.isEmpty() || due.equals(publicMethods), "rule 1: the document's face is " + due + ", not " + publicMethods);
         int methods = 0;
         for (java.lang.reflect.Method m : SmokeRoom.class.getDeclaredMethods()) {
             methods += java.lang.reflect.Modifier.isPublic(m.getModifiers()) ? 1 : 0;
         }
         check(methods == 47, "rule 1: " + methods + " public methods");
+        check(SmokeRoom.class.getConstructors().length == 1, "rule 1: constructors");
+        check(SmokeRoom.class.getConstructor().getParameterCount() == 0, "promise 1: the constructor");
+        check(SmokeRoom.class.getFields().length == 1, "rule 1: constants");
+        check(SmokeRoom.NONE == -1, "the constants: NONE");
     }
 
     public static void main(String[] args) throws Exception {
